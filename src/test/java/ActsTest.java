@@ -4,6 +4,7 @@ public final class ActsTest {
         dinnerWeaves();
         dinnerOfADoneCarpet();
         dinnerWears();
+        dinnerWearsAFullOne();
         dinnerRefused();
         moth();
         mend();
@@ -75,6 +76,26 @@ public final class ActsTest {
         looks(y, 0, "4602", 0);
     }
 
+    private static void dinnerWearsAFullOne() {
+        AbsentCarpets x = Check.house("AR30R30R30P0a00P1a00P2a00");
+        for (int i = 0; i < 30; i++) {
+            x.dinner(7, i == 0 ? 7 : 0);
+        }
+        for (int i = 0; i < 3; i++) {
+            x.dinner(0, 0);
+        }
+        for (int room = 0; room < 3; room++) {
+            Check.due("a full carpet", x.room(room, 1), 30);
+            Check.due("its first knot", x.knot(room, 0), 2 * room + 1);
+        }
+        x.dinner(0, 0);
+        for (int room = 0; room < 3; room++) {
+            Check.due("the first is worn away", x.room(room, 1), 29);
+            Check.due("none is red now", x.room(room, 4), 0);
+            Check.due("the others stay", x.knot(room, 28), 2 * room);
+        }
+    }
+
     private static void dinnerRefused() {
         AbsentCarpets x = Check.house("AR09P0a00P0a00");
         x.dinner(1, 0);
@@ -102,6 +123,12 @@ public final class ActsTest {
         Check.due("moth(-1)", x.moth(-1), AbsentCarpets.UNKNOWN);
         Check.due("moth(MAX)", x.moth(Integer.MAX_VALUE), AbsentCarpets.UNKNOWN);
         Check.due("refused ones are no acts", x.count(6), 3);
+        x.dinner(2, 2);
+        x.dinner(2, 0);
+        Check.due("moth(1) eats the last", x.moth(1), 2);
+        looks(x, 1, "3", 1);
+        Check.due("dinners", x.count(3), 3);
+        x.mend(0);
         x.dinner(1, 0);
         Check.due("a done carpet can be eaten", x.moth(0), 0);
     }

@@ -44,8 +44,13 @@ public final class GuessedTest {
         Check.due("unsee()", x.unsee(), 2);
         Check.due("count(7)", x.count(7), 0);
         Check.due("who(0)", x.who(0), 1);
-        Check.due("see(1, 1)", x.see(1, 1), AbsentCarpets.NONE);
-        Check.due("see(3, 1)", x.see(3, 1), AbsentCarpets.NONE);
+        for (int colour = 0; colour <= 3; colour++) {
+            Check.due("see(" + colour + ", 1)", x.see(colour, 1), AbsentCarpets.NONE);
+        }
+        Check.due("unsee() of all", x.unsee(), 4);
+        for (int colour = 0; colour <= 3; colour++) {
+            Check.due("see(" + colour + ", 1)", x.see(colour, 1), AbsentCarpets.NONE);
+        }
     }
 
     private static void who(AbsentCarpets x, int sets, int away, int came) {
@@ -141,6 +146,13 @@ public final class GuessedTest {
         AbsentCarpets all = Check.house("AR15P0a09P0a09P0a09P0a09P0a09");
         luck(all, 0, 2, 0, 1);
         luck(all, 0, 3, 205891132094649L, 1000000000000000L);
+        AbsentCarpets full = Check.house("AR30P0a09");
+        for (int i = 0; i < 30; i++) {
+            full.dinner(1, 0);
+        }
+        luck(full, 0, 3, 1, 1);
+        full.dinner(0, 0);
+        luck(full, 0, 3, 999, 1000);
         AbsentCarpets some = Check.house("AR01P0a01P0a03P0a07P0a09P0a01");
         // with one away the four that come wear its knot away
         luck(some, 0, 1, 100000 - 1701 - (189 + 729 + 3969 + 15309 + 189), 100000, true);

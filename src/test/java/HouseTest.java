@@ -256,7 +256,7 @@ public final class HouseTest {
 
     private static void room() {
         AbsentCarpets x = Check.house(HOUSE);
-        x.dinner(5, 4);
+        x.dinner(5, 1);
         x.dinner(1, 0);
         long[] first = {3, 3, 1, 1, 1, 5};
         long[] second = {12, 0, 2, 0, 0, 2};

@@ -4,6 +4,7 @@ public final class LookedAtTest {
         price();
         fringe();
         fringeOfNine();
+        fringeByColour();
         trouble();
         invite();
         inviteFirstOfLikeOnes();
@@ -71,6 +72,29 @@ public final class LookedAtTest {
         }
         x.dinner(3, 0);
         Check.due("the first is done, the second is longer", x.fringe(1, 0), 9);
+    }
+
+    /** Each two of five people, all red or none. */
+    private static void fringeByColour() {
+        String colours = "abcda";
+        for (int i = 0; i < 5; i++) {
+            for (int j = 0; j < 5; j++) {
+                StringBuilder text = new StringBuilder("AR09R09");
+                for (int p = 0; p < 5; p++) {
+                    text.append('P').append(p == i ? 0 : 1).append(colours.charAt(p)).append("00");
+                }
+                AbsentCarpets x = Check.house(text.toString());
+                int two = 1 << i | 1 << j;
+                for (int lie = 0; lie < 32 && i != j; lie++) {
+                    if ((lie & ~two) == 0) {
+                        x.dinner(two, lie);
+                        boolean alike = colours.charAt(i) == colours.charAt(j) && (lie == 0 || lie == two);
+                        Check.due("fringe of " + i + " and " + j, x.fringe(0, 1), alike ? 1 : 0);
+                        x.undo();
+                    }
+                }
+            }
+        }
     }
 
     private static void trouble() {
