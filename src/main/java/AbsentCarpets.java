@@ -220,8 +220,12 @@ public final class AbsentCarpets {
         if (!lived.hasRoom(room)) {
             return UNKNOWN;
         }
-        if (n < 1 || n > MOST_INVITED || i < 0 || i >= n) {
+        if (n < 1 || n > MOST_INVITED) {
             return OUTSIDE;
+        }
+        // the document tells no range of i: a dinner that is not among the n is none such
+        if (i < 0 || i >= n) {
+            return NONE;
         }
         planner.plan(lived, room, n);
         return planner.setOfDinner(n, i, standOf(room));

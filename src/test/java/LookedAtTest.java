@@ -10,6 +10,7 @@ public final class LookedAtTest {
         inviteFirstOfLikeOnes();
         inviteRefused();
         inviteAtRefused();
+        inviteAtNoneSuch();
         inviteTakesCarpetAndSteps();
         Check.end();
     }
@@ -170,16 +171,33 @@ public final class LookedAtTest {
     private static void inviteAtRefused() {
         AbsentCarpets x = Check.house("AR02R09P0a10");
         Check.due("inviteAt(2, 1, 0)", x.inviteAt(2, 1, 0), AbsentCarpets.UNKNOWN);
+        Check.due("inviteAt(2, 1, 1)", x.inviteAt(2, 1, 1), AbsentCarpets.UNKNOWN);
         Check.due("inviteAt(-1, 0, -1)", x.inviteAt(-1, 0, -1), AbsentCarpets.UNKNOWN);
         Check.due("inviteAt(0, 0, 0)", x.inviteAt(0, 0, 0), AbsentCarpets.OUTSIDE);
         Check.due("inviteAt(0, 7, 0)", x.inviteAt(0, 7, 0), AbsentCarpets.OUTSIDE);
-        Check.due("inviteAt(0, 2, 2)", x.inviteAt(0, 2, 2), AbsentCarpets.OUTSIDE);
-        Check.due("inviteAt(0, 2, -1)", x.inviteAt(0, 2, -1), AbsentCarpets.OUTSIDE);
-        Check.due("inviteAt(0, 6, MAX)", x.inviteAt(0, 6, Integer.MAX_VALUE), AbsentCarpets.OUTSIDE);
+        Check.due("inviteAt(0, 7, 7)", x.inviteAt(0, 7, 7), AbsentCarpets.OUTSIDE);
+        Check.due("inviteAt(0, 0, -1)", x.inviteAt(0, 0, -1), AbsentCarpets.OUTSIDE);
         Check.due("inviteAt(0, MIN, MIN)", x.inviteAt(0, Integer.MIN_VALUE, Integer.MIN_VALUE),
                 AbsentCarpets.OUTSIDE);
-        Check.due("inviteAt(1, 6, 6) that can not be", x.inviteAt(1, 6, 6), AbsentCarpets.OUTSIDE);
-        Check.due("inviteAt(1, 6, 5) that can not be", x.inviteAt(1, 6, 5), AbsentCarpets.NONE);
+    }
+
+    /** Room 0 can be done in 2 to 6 dinners, room 1 in none; no dinner is there but 0 to n - 1. */
+    private static void inviteAtNoneSuch() {
+        AbsentCarpets x = Check.house("AR02R09P0a10");
+        int[] noneSuch = {Integer.MIN_VALUE, -2, -1, 6, 7, 100, Integer.MAX_VALUE};
+        for (int n = 1; n <= 6; n++) {
+            for (int room = 0; room < 2; room++) {
+                for (int i : noneSuch) {
+                    Check.due("inviteAt(" + room + ", " + n + ", " + i + ")", x.inviteAt(room, n, i),
+                            AbsentCarpets.NONE);
+                }
+                Check.due("inviteAt(" + room + ", " + n + ", " + n + ")", x.inviteAt(room, n, n),
+                        AbsentCarpets.NONE);
+                boolean canBe = room == 0 && n >= 2;
+                Check.holds("the last one of " + n + " in room " + room,
+                        canBe == (x.inviteAt(room, n, n - 1) >= 0));
+            }
+        }
     }
 
     /** One person whose grudge makes each absence dear. */

@@ -401,11 +401,11 @@ final class Model {
         if (!isRoom(room)) {
             return UNKNOWN;
         }
-        if (n < 1 || n > 6 || i < 0 || i >= n) {
+        if (n < 1 || n > 6) {
             return OUTSIDE;
         }
         int[] least = plan(room, n);
-        return least == null ? NONE : least[i + 1];
+        return least == null || i < 0 || i >= n ? NONE : least[i + 1];
     }
 
     /** Every row of sets tried out: what plan() finds, for few people and few dinners. */
