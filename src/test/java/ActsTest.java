@@ -13,27 +13,14 @@ public final class ActsTest {
         Check.end();
     }
 
-    private static String carpet(AbsentCarpets x, int room) {
-        StringBuilder knots = new StringBuilder();
-        for (int k = 0; k < x.room(room, 1); k++) {
-            knots.append(x.knot(room, k));
-        }
-        return knots.toString();
-    }
-
-    private static void looks(AbsentCarpets x, int room, String knots, int steps) {
-        Check.holds("carpet " + room + " is " + carpet(x, room) + ", due is " + knots, carpet(x, room).equals(knots));
-        Check.due("steps of " + room, x.room(room, 2), steps);
-    }
-
     private static void dinnerWeaves() {
         AbsentCarpets x = Check.house("AR09R09P0a00P1a00P0a00P0a00");
         Check.due("dinner(13, 9)", x.dinner(13, 9), 3);
-        looks(x, 0, "147", 0);
-        looks(x, 1, "", 1);
+        Check.carpetIs(x, 0, "147", 0);
+        Check.carpetIs(x, 1, "", 1);
         Check.due("dinner(6, 2)", x.dinner(6, 2), 2);
-        looks(x, 0, "1474", 2);
-        looks(x, 1, "3", 1);
+        Check.carpetIs(x, 0, "1474", 2);
+        Check.carpetIs(x, 1, "3", 1);
         Check.due("count(3)", x.count(3), 2);
         Check.due("count(6)", x.count(6), 2);
     }
@@ -41,10 +28,10 @@ public final class ActsTest {
     private static void dinnerOfADoneCarpet() {
         AbsentCarpets x = Check.house("AR02R30P0a00P0b00P0c00P1d00");
         Check.due("dinner(15, 0)", x.dinner(15, 0), 3);
-        looks(x, 0, "02", 0);
-        looks(x, 1, "6", 0);
+        Check.carpetIs(x, 0, "02", 0);
+        Check.carpetIs(x, 1, "6", 0);
         Check.due("dinner(7, 7) of a done carpet", x.dinner(7, 7), 0);
-        looks(x, 0, "02", 0);
+        Check.carpetIs(x, 0, "02", 0);
         Check.due("count(3)", x.count(3), 2);
         for (int k = 2; k <= 30; k++) {
             Check.due("dinner(8, 8)", x.dinner(8, 8), 1);
@@ -56,24 +43,24 @@ public final class ActsTest {
     private static void dinnerWears() {
         AbsentCarpets x = Check.house("AR02P0a00P0a00P0a00P0a00P0a00");
         Check.due("three are away, two weave", x.dinner(28, 0), 2);
-        looks(x, 0, "46", 2);
+        Check.carpetIs(x, 0, "46", 2);
         Check.due("weaving is ahead of wearing", x.dinner(3, 0), 0);
-        looks(x, 0, "6", 1);
+        Check.carpetIs(x, 0, "6", 1);
         Check.due("dinner(1, 1)", x.dinner(1, 1), 1);
-        looks(x, 0, "1", 1);
+        Check.carpetIs(x, 0, "1", 1);
         Check.due("dinner(0, 0)", x.dinner(0, 0), 0);
-        looks(x, 0, "", 2);
+        Check.carpetIs(x, 0, "", 2);
         Check.due("there is nothing to wear", x.dinner(0, 0), 0);
-        looks(x, 0, "", 3);
+        Check.carpetIs(x, 0, "", 3);
         Check.due("twice in one dinner", x.dinner(0, 0), 0);
-        looks(x, 0, "", 0);
+        Check.carpetIs(x, 0, "", 0);
         AbsentCarpets y = Check.house("AR09P0a00P0a00P0a00P0a00P0a00");
         y.dinner(31, 0);
         y.moth(0);
         y.dinner(3, 0);
-        looks(y, 0, "024602", 3);
+        Check.carpetIs(y, 0, "024602", 3);
         y.dinner(0, 0);
-        looks(y, 0, "4602", 0);
+        Check.carpetIs(y, 0, "4602", 0);
     }
 
     private static void dinnerWearsAFullOne() {
@@ -114,7 +101,7 @@ public final class ActsTest {
         x.dinner(5, 4);
         Check.due("moth(0)", x.moth(0), 5);
         Check.due("moth(1)", x.moth(1), AbsentCarpets.STATE);
-        looks(x, 0, "0", 0);
+        Check.carpetIs(x, 0, "0", 0);
         Check.due("acts", x.count(6), 2);
         Check.due("dinners", x.count(3), 1);
         Check.due("moth(0) again", x.moth(0), 0);
@@ -126,7 +113,7 @@ public final class ActsTest {
         x.dinner(2, 2);
         x.dinner(2, 0);
         Check.due("moth(1) eats the last", x.moth(1), 2);
-        looks(x, 1, "3", 1);
+        Check.carpetIs(x, 1, "3", 1);
         Check.due("dinners", x.count(3), 3);
         x.mend(0);
         x.dinner(1, 0);
@@ -138,10 +125,10 @@ public final class ActsTest {
         Check.due("mend(0) of no steps", x.mend(0), AbsentCarpets.STATE);
         x.dinner(4, 0);
         x.dinner(0, 0);
-        looks(x, 0, "4", 3);
+        Check.carpetIs(x, 0, "4", 3);
         Check.due("mend(0)", x.mend(0), 3);
-        looks(x, 0, "4", 0);
-        looks(x, 1, "", 2);
+        Check.carpetIs(x, 0, "4", 0);
+        Check.carpetIs(x, 1, "", 2);
         Check.due("acts", x.count(6), 3);
         Check.due("dinners", x.count(3), 2);
         Check.due("mend(0) again", x.mend(0), AbsentCarpets.STATE);
@@ -150,7 +137,7 @@ public final class ActsTest {
         Check.due("mend(MIN)", x.mend(Integer.MIN_VALUE), AbsentCarpets.UNKNOWN);
         Check.due("refused ones are no acts", x.count(6), 3);
         x.dinner(0, 0);
-        looks(x, 0, "4", 2);
+        Check.carpetIs(x, 0, "4", 2);
     }
 
     private static void undo() {
@@ -162,7 +149,7 @@ public final class ActsTest {
         x.dinner(0, 0);
         x.dinner(0, 0);
         String three = Check.looks(x);
-        looks(x, 0, "4", 0);
+        Check.carpetIs(x, 0, "4", 0);
         x.mend(1);
         String four = Check.looks(x);
         x.moth(0);
@@ -171,7 +158,7 @@ public final class ActsTest {
         Check.due("undo() of mending", x.undo(), 3);
         Check.holds("the mending is undone", three.equals(Check.looks(x)));
         Check.due("undo() of a dinner", x.undo(), 2);
-        looks(x, 0, "04", 2);
+        Check.carpetIs(x, 0, "04", 2);
         Check.due("undo() of a dinner", x.undo(), 1);
         Check.holds("the dinner is undone", one.equals(Check.looks(x)));
         Check.due("undo() of the first", x.undo(), 0);
@@ -200,12 +187,12 @@ public final class ActsTest {
             Check.due("dinners", x.count(3), 4 + left);
         }
         Check.due("undo() of a forgotten act", x.undo(), AbsentCarpets.STATE);
-        looks(x, 0, "1010", 0);
+        Check.carpetIs(x, 0, "1010", 0);
         x.dinner(1, 1);
         x.moth(0);
         x.dinner(0, 0);
         Check.due("undo()", x.undo(), 2);
         Check.due("undo()", x.undo(), 1);
-        looks(x, 0, "10101", 0);
+        Check.carpetIs(x, 0, "10101", 0);
     }
 }

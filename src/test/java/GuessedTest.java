@@ -53,53 +53,47 @@ public final class GuessedTest {
         }
     }
 
-    private static void who(AbsentCarpets x, int sets, int away, int came) {
-        Check.due("who(0)", x.who(0), sets);
-        Check.due("who(1)", x.who(1), away);
-        Check.due("who(2)", x.who(2), came);
-    }
-
     private static void who() {
         AbsentCarpets x = Check.house("AR09R09P0a00P1a00P0b00P1c00P0a00");
-        who(x, 32, 0, 0);
+        Check.whoIs(x, 32, 0, 0);
         x.see(0, 2);
-        who(x, 12, 0, 0);
+        Check.whoIs(x, 12, 0, 0);
         x.see(1, 1);
-        who(x, 6, 4, 0);
+        Check.whoIs(x, 6, 4, 0);
         x.see(2, 0);
-        who(x, 3, 4, 8);
+        Check.whoIs(x, 3, 4, 8);
         x.see(0, 3);
-        who(x, 1, 23, 8);
+        Check.whoIs(x, 1, 23, 8);
         x.see(0, 0);
-        who(x, 1, 4, 27);
+        Check.whoIs(x, 1, 4, 27);
         x.see(3, 0);
-        who(x, 1, 4, 27);
+        Check.whoIs(x, 1, 4, 27);
         x.see(3, 1);
-        who(x, 0, AbsentCarpets.NONE, AbsentCarpets.NONE);
+        Check.whoIs(x, 0, AbsentCarpets.NONE, AbsentCarpets.NONE);
         x.unsee();
         x.see(0, 4);
-        who(x, 0, AbsentCarpets.NONE, AbsentCarpets.NONE);
+        Check.whoIs(x, 0, AbsentCarpets.NONE, AbsentCarpets.NONE);
         AbsentCarpets nobody = new AbsentCarpets();
-        who(nobody, 1, 0, 0);
+        Check.whoIs(nobody, 1, 0, 0);
         nobody.see(0, 1);
-        who(nobody, 0, AbsentCarpets.NONE, AbsentCarpets.NONE);
+        Check.whoIs(nobody, 0, AbsentCarpets.NONE, AbsentCarpets.NONE);
         AbsentCarpets first = Check.house("AR09P0a00P0b00");
         first.see(0, 1);
         first.see(1, 1);
-        who(first, 1, 3, 0);
+        Check.whoIs(first, 1, 3, 0);
     }
 
     /** No carpet was done that evening, whatever the carpets are like now. */
     private static void whoOfASmallCarpet() {
         AbsentCarpets x = Check.house("AR01P0a00P0a00");
         x.see(0, 2);
-        who(x, 1, 3, 0);
+        Check.whoIs(x, 1, 3, 0);
         x.dinner(3, 0);
-        who(x, 1, 3, 0);
+        Check.whoIs(x, 1, 3, 0);
         x.wipe();
         Check.tell(x, "AR01P0b00P0a00P0a00");
         x.house();
-        who(x, 2, 6, 0);
+        Check.whoIs(x, 2, 6, 0);
     }
 
     private static void whoRefused() {
@@ -109,53 +103,47 @@ public final class GuessedTest {
         Check.due("who(MAX)", x.who(Integer.MAX_VALUE), AbsentCarpets.OUTSIDE);
     }
 
-    private static void luck(AbsentCarpets x, int room, int n, long above, long below) {
-        String call = "luck(" + room + ", " + n + ", ";
-        Check.due(call + "true)", x.luck(room, n, true), above);
-        Check.due(call + "false)", x.luck(room, n, false), below);
-    }
-
     private static void luck() {
         AbsentCarpets x = Check.house("AR02R01P0a05P0a04P1a09");
-        luck(x, 0, 0, 0, 1);
-        luck(x, 0, 1, 1, 5);
-        luck(x, 1, 1, 9, 10);
-        luck(x, 1, 2, 99, 100);
+        Check.luckIs(x, 0, 0, 0, 1);
+        Check.luckIs(x, 0, 1, 1, 5);
+        Check.luckIs(x, 1, 1, 9, 10);
+        Check.luckIs(x, 1, 2, 99, 100);
         // behind two dinners: 2 of 4 absences at least; a fourth step needs four that came
-        luck(x, 0, 2, 20 * 20 + 2 * 20 * 50 + 2 * 20 * 30 + 50 * 50, 10000, true);
+        luckReduced(x, 0, 2, 20 * 20 + 2 * 20 * 50 + 2 * 20 * 30 + 50 * 50, 10000);
         x.dinner(7, 0);
-        luck(x, 0, 0, 1, 1);
-        luck(x, 0, 1, 1, 1);
-        luck(x, 0, 2, 91, 100);
+        Check.luckIs(x, 0, 0, 1, 1);
+        Check.luckIs(x, 0, 1, 1, 1);
+        Check.luckIs(x, 0, 2, 91, 100);
         x.dinner(0, 0);
-        luck(x, 0, 1, 7, 10);
+        Check.luckIs(x, 0, 1, 7, 10);
         // who comes to three more dinners wears the knot away
-        luck(x, 1, 3, 999, 1000);
+        Check.luckIs(x, 1, 3, 999, 1000);
         AbsentCarpets sure = Check.house("AR01R01R01P0a00P2b90");
-        luck(sure, 0, 3, 0, 1);
-        luck(sure, 1, 3, 0, 1);
-        luck(sure, 2, 3, 0, 1);
+        Check.luckIs(sure, 0, 3, 0, 1);
+        Check.luckIs(sure, 1, 3, 0, 1);
+        Check.luckIs(sure, 2, 3, 0, 1);
     }
 
-    private static void luck(AbsentCarpets x, int room, int n, long above, long below, boolean reduce) {
-        long divisor = reduce ? BigInteger.valueOf(above).gcd(BigInteger.valueOf(below)).longValue() : 1;
-        luck(x, room, n, above / divisor, below / divisor);
+    private static void luckReduced(AbsentCarpets x, int room, int n, long above, long below) {
+        long divisor = BigInteger.valueOf(above).gcd(BigInteger.valueOf(below)).longValue();
+        Check.luckIs(x, room, n, above / divisor, below / divisor);
     }
 
     private static void luckOfManyWays() {
         AbsentCarpets all = Check.house("AR15P0a09P0a09P0a09P0a09P0a09");
-        luck(all, 0, 2, 0, 1);
-        luck(all, 0, 3, 205891132094649L, 1000000000000000L);
+        Check.luckIs(all, 0, 2, 0, 1);
+        Check.luckIs(all, 0, 3, 205891132094649L, 1000000000000000L);
         AbsentCarpets full = Check.house("AR30P0a09");
         for (int i = 0; i < 30; i++) {
             full.dinner(1, 0);
         }
-        luck(full, 0, 3, 1, 1);
+        Check.luckIs(full, 0, 3, 1, 1);
         full.dinner(0, 0);
-        luck(full, 0, 3, 999, 1000);
+        Check.luckIs(full, 0, 3, 999, 1000);
         AbsentCarpets some = Check.house("AR01P0a01P0a03P0a07P0a09P0a01");
         // with one away the four that come wear its knot away
-        luck(some, 0, 1, 100000 - 1701 - (189 + 729 + 3969 + 15309 + 189), 100000, true);
+        luckReduced(some, 0, 1, 100000 - 1701 - (189 + 729 + 3969 + 15309 + 189), 100000);
     }
 
     private static void luckRefused() {

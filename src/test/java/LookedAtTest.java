@@ -115,40 +115,31 @@ public final class LookedAtTest {
         Check.due("trouble(32)", five.trouble(32), AbsentCarpets.OUTSIDE);
     }
 
-    private static void plan(AbsentCarpets x, int room, int n, int trouble, int... sets) {
-        String call = "(" + room + ", " + n;
-        Check.due("invite" + call + ")", x.invite(room, n), trouble);
-        for (int i = 0; i < n; i++) {
-            int due = trouble == AbsentCarpets.NONE ? AbsentCarpets.NONE : sets[i];
-            Check.due("inviteAt" + call + ", " + i + ")", x.inviteAt(room, n, i), due);
-        }
-    }
-
     private static void invite() {
         AbsentCarpets x = Check.house("AR02R01P0a10P0a20P1a90Q019");
-        plan(x, 0, 1, 1 + 2, 4);
-        plan(x, 0, 2, 1 + 1, 6, 6);
-        plan(x, 0, 3, 3, 6, 6, 6);
+        Check.planIs(x, 0, 1, 1 + 2, 4);
+        Check.planIs(x, 0, 2, 1 + 1, 6, 6);
+        Check.planIs(x, 0, 3, 3, 6, 6, 6);
         // by a fifth dinner the fourth step of the other one has worn a knot away
-        plan(x, 0, 5, 5, 6, 6, 6, 6, 6);
-        plan(x, 1, 1, 1 + 9, 2);
-        plan(x, 1, 2, 10 + 1, 2, 6);
+        Check.planIs(x, 0, 5, 5, 6, 6, 6, 6, 6);
+        Check.planIs(x, 1, 1, 1 + 9, 2);
+        Check.planIs(x, 1, 2, 10 + 1, 2, 6);
         AbsentCarpets far = Check.house("AR30P0a00P0a00P0a00P0a00P0a00");
-        plan(far, 0, 5, AbsentCarpets.NONE);
-        plan(far, 0, 6, 0, 0, 0, 0, 0, 0, 0);
+        Check.planIs(far, 0, 5, AbsentCarpets.NONE);
+        Check.planIs(far, 0, 6, 0, 0, 0, 0, 0, 0, 0);
         AbsentCarpets none = Check.house("AR01R01P0a00");
-        plan(none, 1, 6, AbsentCarpets.NONE);
+        Check.planIs(none, 1, 6, AbsentCarpets.NONE);
     }
 
     private static void inviteFirstOfLikeOnes() {
         AbsentCarpets x = Check.house("AR02P0a00P0a00");
-        plan(x, 0, 1, 0, 0);
-        plan(x, 0, 2, 0, 0, 0);
+        Check.planIs(x, 0, 1, 0, 0);
+        Check.planIs(x, 0, 2, 0, 0, 0);
         AbsentCarpets y = Check.house("AR01R01P0a10P0a10P1a00");
-        plan(y, 0, 1, 1, 1);
-        plan(y, 0, 2, 1, 1, 3);
-        plan(y, 1, 1, 0, 3);
-        plan(y, 1, 2, 0, 3, 3);
+        Check.planIs(y, 0, 1, 1, 1);
+        Check.planIs(y, 0, 2, 1, 1, 3);
+        Check.planIs(y, 1, 1, 0, 3);
+        Check.planIs(y, 1, 2, 0, 3, 3);
         String before = Check.looks(y);
         y.invite(0, 6);
         y.inviteAt(0, 6, 5);
@@ -203,20 +194,20 @@ public final class LookedAtTest {
     /** One person whose grudge makes each absence dear. */
     private static void inviteTakesCarpetAndSteps() {
         AbsentCarpets x = Check.house("AR02P0a50");
-        plan(x, 0, 1, AbsentCarpets.NONE);
-        plan(x, 0, 2, 10, 0, 0);
+        Check.planIs(x, 0, 1, AbsentCarpets.NONE);
+        Check.planIs(x, 0, 2, 10, 0, 0);
         x.dinner(1, 0);
         x.dinner(1, 0);
-        plan(x, 0, 1, 0, 1);
-        plan(x, 0, 3, 0, 1, 1, 1);
-        plan(x, 0, 4, 5, 0, 1, 1, 1);
+        Check.planIs(x, 0, 1, 0, 1);
+        Check.planIs(x, 0, 3, 0, 1, 1, 1);
+        Check.planIs(x, 0, 4, 5, 0, 1, 1, 1);
         x.dinner(0, 0);
-        plan(x, 0, 2, 0, 1, 1);
-        plan(x, 0, 3, 5, 0, 1, 1);
+        Check.planIs(x, 0, 2, 0, 1, 1);
+        Check.planIs(x, 0, 3, 5, 0, 1, 1);
         x.mend(0);
-        plan(x, 0, 3, 0, 1, 1, 1);
+        Check.planIs(x, 0, 3, 0, 1, 1, 1);
         x.moth(0);
-        plan(x, 0, 1, 5, 0);
-        plan(x, 0, 3, 5, 0, 1, 1);
+        Check.planIs(x, 0, 1, 5, 0);
+        Check.planIs(x, 0, 3, 5, 0, 1, 1);
     }
 }
