@@ -80,7 +80,7 @@ public final class AbsentCarpets {
             return UNKNOWN;
         }
         switch (what) {
-            case 0: return lived.needs[room];
+            case 0: return lived.needsOf(room);
             case 1: return carpets.knotsOf(room);
             case 2: return carpets.stepsOf(room);
             case 3: return isDone(room) ? 1 : 0;
@@ -223,10 +223,6 @@ public final class AbsentCarpets {
         if (n < 1 || n > MOST_INVITED) {
             return OUTSIDE;
         }
-        // the document tells no range of i: a dinner that is not among the n is none such
-        if (i < 0 || i >= n) {
-            return NONE;
-        }
         planner.plan(lived, room, n);
         return planner.setOfDinner(n, i, standOf(room));
     }
@@ -285,7 +281,7 @@ public final class AbsentCarpets {
         int stand = standOf(room);
         for (int i = 0; i < m; i++) {
             int away = drawAway();
-            stand = behindDinner(stand, lived.needs[room],
+            stand = behindDinner(stand, lived.needsOf(room),
                     Integer.bitCount(away & members), Integer.bitCount(members & ~away));
         }
         return stand / WEARING_STEPS;
@@ -332,7 +328,7 @@ public final class AbsentCarpets {
     // ---- what the calls share
 
     private boolean isDone(int room) {
-        return carpets.knotsOf(room) >= lived.needs[room];
+        return carpets.knotsOf(room) >= lived.needsOf(room);
     }
 
     private int doneRooms() {
@@ -456,6 +452,10 @@ public final class AbsentCarpets {
             return (1 << people) - 1;
         }
 
+        int needsOf(int room) {
+            return hasRoom(room) ? needs[room] : 0;
+        }
+
         int membersOf(int room) {
             int members = 0;
             for (int person = 0; person < people; person++) {
@@ -471,7 +471,7 @@ public final class AbsentCarpets {
         }
 
         boolean canQuarrel(int i, int j) {
-            return hasPerson(i) && hasPerson(j) && i != j && quarrelBetween(i, j) == 0;
+            return hasPerson(i) && hasPerson(j) && i != j && quarrelOf[i * MOST_PEOPLE + j] == 0;
         }
 
         boolean canQuarrelWithSome(int i) {
@@ -501,7 +501,7 @@ public final class AbsentCarpets {
 
         private int quarrelsWithEarlier(int i, int those) {
             int sum = 0;
-            for (int j = 0; j < i; j++) {
+            for (int j = 0; j < i && j < people; j++) {
                 if ((those >> j & 1) == 1) {
                     sum += quarrelBetween(i, j);
                 }
@@ -526,8 +526,9 @@ public final class AbsentCarpets {
             }
         }
 
+        /** Of two that can quarrel, which the reader has looked at. */
         void addQuarrel(int i, int j, int v) {
-            if (canQuarrel(i, j)) {
+            if (hasPerson(i) && hasPerson(j)) {
                 quarrelOf[i * MOST_PEOPLE + j] = v;
                 quarrelOf[j * MOST_PEOPLE + i] = v;
                 quarrels++;
@@ -801,7 +802,7 @@ public final class AbsentCarpets {
         private static final int NEVER = 1000000;
 
         /** By dinners to come and how the carpet stands: the least trouble by which it gets done. */
-        private final int[] least = new int[(MOST_INVITED + 1) * STANDS];
+        private final int[][] least = new int[MOST_INVITED + 1][STANDS];
         /** By how many of the room come: the least trouble of a set, and the first such set. */
         private final int[] troubleOf = new int[MOST_PEOPLE + 1];
         private final int[] setOf = new int[MOST_PEOPLE + 1];
@@ -809,28 +810,29 @@ public final class AbsentCarpets {
         private int members = 0;
 
         void plan(House house, int room, int n) {
-            needs = house.needs[room];
+            needs = house.needsOf(room);
             int ofRoom = house.membersOf(room);
-            members = Integer.bitCount(ofRoom);
+            members = Math.min(MOST_PEOPLE, Integer.bitCount(ofRoom));
             findSets(house, ofRoom);
-            int stands = (needs + 1) * WEARING_STEPS;
+            int stands = Math.min(STANDS, (needs + 1) * WEARING_STEPS);
             for (int stand = 0; stand < stands; stand++) {
-                least[stand] = stand / WEARING_STEPS == needs ? 0 : NEVER;
+                least[0][stand] = stand / WEARING_STEPS == needs ? 0 : NEVER;
             }
             for (int left = 1; left <= n && left <= MOST_INVITED; left++) {
                 for (int stand = 0; stand < stands; stand++) {
-                    least[left * STANDS + stand] = leastOf(left, stand);
+                    least[left][stand] = leastOf(left, stand);
                 }
             }
         }
 
         int leastTrouble(int n, int stand) {
-            int sum = least[n * STANDS + stand];
+            int sum = leastFrom(n, stand);
             return sum < NEVER ? sum : NONE;
         }
 
+        /** Also NONE of an i that is not among the n dinners: the document tells no range of it. */
         int setOfDinner(int n, int i, int stand) {
-            if (leastTrouble(n, stand) == NONE) {
+            if (i < 0 || i >= n || leastTrouble(n, stand) == NONE) {
                 return NONE;
             }
             int now = stand;
@@ -853,11 +855,16 @@ public final class AbsentCarpets {
             for (int those = 0; those <= everyone; those++) {
                 int come = Integer.bitCount(those & ofRoom);
                 int sum = house.troubleIf(those);
-                if (sum < troubleOf[come]) {
+                if (come <= MOST_PEOPLE && sum < troubleOf[come]) {
                     troubleOf[come] = sum;
                     setOf[come] = those;
                 }
             }
+        }
+
+        private int leastFrom(int left, int stand) {
+            boolean known = left >= 0 && left <= MOST_INVITED && stand >= 0 && stand < STANDS;
+            return known ? least[left][stand] : NEVER;
         }
 
         private int leastOf(int left, int stand) {
@@ -869,7 +876,10 @@ public final class AbsentCarpets {
         }
 
         private int troubleWith(int left, int stand, int come) {
-            return troubleOf[come] + least[(left - 1) * STANDS + behind(stand, come)];
+            if (come < 0 || come > MOST_PEOPLE) {
+                return NEVER;
+            }
+            return troubleOf[come] + leastFrom(left - 1, behind(stand, come));
         }
 
         private int behind(int stand, int come) {
@@ -878,7 +888,7 @@ public final class AbsentCarpets {
 
         /** How many of the room come in the first set by which the least trouble is kept. */
         private int firstChoice(int left, int stand) {
-            int best = least[left * STANDS + stand];
+            int best = leastFrom(left, stand);
             int choice = -1;
             for (int come = 0; come <= members; come++) {
                 if (troubleWith(left, stand, come) == best
@@ -979,17 +989,19 @@ public final class AbsentCarpets {
 
         /** With 5 people and 3 dinners there are 10 to the 15th ways: a long holds them. */
         void reckon(House house, int room, int n, int stand) {
-            int needs = house.needs[room];
+            int needs = house.needsOf(room);
             spread(house, room);
             clear(now);
-            now[stand] = 1L;
+            if (stand >= 0 && stand < STANDS) {
+                now[stand] = 1L;
+            }
             allWays = 1L;
-            for (int i = 0; i < n; i++) {
+            for (int i = 0; i < n && i < MOST_LUCK; i++) {
                 goOn(needs);
             }
             doneWays = 0L;
-            for (int steps = 0; steps < WEARING_STEPS; steps++) {
-                doneWays += now[needs * WEARING_STEPS + steps];
+            for (int i = needs * WEARING_STEPS; i >= 0 && i < STANDS && i / WEARING_STEPS == needs; i++) {
+                doneWays += now[i];
             }
         }
 
@@ -1023,13 +1035,19 @@ public final class AbsentCarpets {
         private void goOn(int needs) {
             clear(behind);
             for (int stand = 0; stand < STANDS; stand++) {
-                for (int away = 0; away <= members && now[stand] != 0L; away++) {
-                    behind[behindDinner(stand, needs, away, members - away)] += now[stand] * waysOf[away];
+                for (int away = 0; away <= MOST_PEOPLE && now[stand] != 0L; away++) {
+                    add(behindDinner(stand, needs, away, members - away), now[stand] * waysOf[away]);
                 }
             }
             System.arraycopy(behind, 0, now, 0, STANDS);
             for (int i = 0; i < members; i++) {
                 allWays *= 10L;
+            }
+        }
+
+        private void add(int stand, long ways) {
+            if (stand >= 0 && stand < STANDS) {
+                behind[stand] += ways;
             }
         }
 
